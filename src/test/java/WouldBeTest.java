@@ -12,7 +12,7 @@ public final class WouldBeTest {
     first();
     firstOfMany();
     yard();
-    yardOfHiddenAndWalls();
+    yardOfHidden();
     nothingChanges();
     check.end();
   }
@@ -202,31 +202,14 @@ public final class WouldBeTest {
     check.due("yard(1) where none goes now", x.yard(1), 7 - 2);
   }
 
-  private static void yardOfHiddenAndWalls() {
-    // Bare, the hidden 9 is tried first: from 8 the next way is the good one, not that by 1.
-    SnowPaths x = Check.walled("...o....", ".o......", "........");
-    x.walker(0, 12);
-    Check.snowOf(x, 0, 0, 0, 0, 0, 0, 0, 0, 0, 5, 5);
-    check.due("yard(0) of a hidden one is tried like others", x.yard(0), yardByTrying(x, 0));
-    check.due("yard(1) of it", x.yard(1), yardByTrying(x, 1));
-  }
-
-  /** The yard by laying each cell bare in turn, on objects of their own. */
-  private static int yardByTrying(SnowPaths x, int what) {
-    int best = SnowPaths.NONE;
-    int gain = 0;
-    for (int c = 0; c < 64; c++) {
-      SnowPaths y = Check.walled("...o....", ".o......", "........");
-      y.walker(0, 12);
-      int[] snow = Check.cells(x, 1, 0, 64);
-      snow[c] = 0;
-      Check.snowOf(y, snow);
-      if (y.cell(c, 0) != 1 && x.all(0) - y.all(0) > gain) {
-        best = c;
-        gain = x.all(0) - y.all(0);
-      }
-    }
-    return what == 0 ? best : gain;
+  /** Bare, the hidden 10 lures the walker to 2, from where the good way goes on. */
+  private static void yardOfHidden() {
+    SnowPaths x = Check.walled("......##", "..o.#.##", ".o..#.##");
+    x.walker(1, 18);
+    Check.snowOf(x, 0, 0, 0, 0, 0, 0, 0, 0, 1, 0, 3, 0, 0, 0, 0, 0, 1);
+    check.due("all(0) by 9 and back", x.all(0), 7);
+    check.due("yard(0) of a hidden one", x.yard(0), 10);
+    check.due("yard(1) of a hidden one", x.yard(1), 2);
   }
 
   private static void nothingChanges() {
