@@ -238,9 +238,6 @@ public final class SnowPaths {
     // ---- falls, pictures
 
     public long falls(int what) {
-        if (what < 0 || what > 1) {
-            return refusedLong(BAD);
-        }
         return left(0, what);
     }
 
@@ -442,10 +439,10 @@ public final class SnowPaths {
         seekYard();
         h = 31 * h + bestYard;
         h = 31 * h + bestYardGain;
-        for (int k = 0; k <= 2; k += 2) {
-            h = 31 * h + left(k, 0);
-            h = 31 * h + left(k, 1);
-        }
+        h = 31 * h + falls(0);
+        h = 31 * h + falls(1);
+        h = 31 * h + left(2, 0);
+        h = 31 * h + left(2, 1);
         return h;
     }
 

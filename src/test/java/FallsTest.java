@@ -7,6 +7,7 @@ public final class FallsTest {
     fallsInLowestTerms();
     grit();
     left();
+    gritAtTheEdges();
     tower();
     towerOfNobodyAndMany();
     towerOrder();
@@ -113,6 +114,24 @@ public final class FallsTest {
     }
   }
 
+  private static void gritAtTheEdges() {
+    SnowPaths x = Check.walled("........");
+    x.walker(1, 0);
+    Check.snowOf(x, 1);
+    x.walk(0);
+    x.freezes();
+    fraction("falls on the first cell", x.falls(0), x.falls(1), 1, 30);
+    check.due("grit(1, 0) of the first cell", x.grit(1, 0), 0);
+    fraction("left without the first cell", x.left(1, 0), x.left(1, 1), 0, 1);
+    SnowPaths y = new SnowPaths();
+    y.walker(62, 63);
+    y.snows(1);
+    y.walk(0);
+    y.freezes();
+    check.due("grit(1, 0) of the last cell", y.grit(1, 0), 63);
+    fraction("left without the last cell", y.left(1, 0), y.left(1, 1), 0, 1);
+  }
+
   private static void tower() {
     SnowPaths x = WouldBeTest.lane();
     x.sheet(0, 0, 64);
@@ -144,12 +163,16 @@ public final class FallsTest {
     check.due("tower(0, 1) of nobody", x.tower(0, 1), 0);
     x.lay(0, 0, 2, 1);
     check.due("tower(0, 0) of nobody, unlike", x.tower(0, 0), 0);
-    for (int n = 0; n < 5; n++) {
+    x.lay(0, 0, 2, 0);
+    x.walker(0, 0);
+    check.due("tower(0, 0) of one", x.tower(0, 0), 1);
+    check.due("tower(0, 1) of one", x.tower(0, 1), 1);
+    for (int n = 1; n < 5; n++) {
       x.walker(n, n);
     }
-    x.lay(0, 0, 2, 0);
     check.due("tower(0, 0) of five", x.tower(0, 0), 120);
     check.due("tower(0, 1) of five", x.tower(0, 1), 31);
+    check.due("towerOrder(0, 4) of five", x.towerOrder(0, 4), 4);
     x.walker(0, 1);
     check.due("tower(0, 0) of six", x.tower(0, 0), SnowPaths.FULL);
     check.due("towerOrder(0, 0) of six", x.towerOrder(0, 0), SnowPaths.FULL);

@@ -193,12 +193,19 @@ public final class GreenTest {
     x.walk(0);
     check.due("thaws(1) of pressed alone", x.thaws(1), 1);
     check.due("pressed", x.cell(1, 2), 1);
+    check.due("thaws(1) of the last that is pressed", x.thaws(1), 1);
+    Check.snowOf(x, 1, 1);
+    check.due("thaws(0) of it", x.thaws(0), 0);
+    x.walk(0);
     x.freezes();
     x.clear(1, 1);
     Check.snowOf(x, 0, 0, 0);
     check.due("thaws(1) of ice alone", x.thaws(1), 1);
     check.due("ice", x.cell(1, 3), 0);
     check.due("thaws(1) of nothing", x.thaws(1), 0);
+    Check.snowOf(x, 2);
+    check.due("thaws(1) of the first cell", x.thaws(1), 1);
+    check.due("its snow", x.cell(0, 1), 1);
   }
 
   private static void freezes() {
@@ -253,6 +260,10 @@ public final class GreenTest {
     check.due("clear(1, 2) onto a wall", x.clear(1, 2), SnowPaths.NOT);
     check.due("clear(9, 0) of a wall", x.clear(9, 0), SnowPaths.NOT);
     check.due("clear(0, 0) beyond", x.clear(0, 0), SnowPaths.NOT);
+    check.due("clear(7, 0) beyond", x.clear(7, 0), SnowPaths.NOT);
+    check.due("clear(56, 2) beyond", x.clear(56, 2), SnowPaths.NOT);
+    check.due("clear(15, 1) beyond", x.clear(15, 1), SnowPaths.NOT);
+    check.due("clear(56, 3) beyond", x.clear(56, 3), SnowPaths.NOT);
     check.due("clear(7, 1) beyond", x.clear(7, 1), SnowPaths.NOT);
     check.due("clear(63, 2) beyond", x.clear(63, 2), SnowPaths.NOT);
     check.due("clear(8, 3) beyond", x.clear(8, 3), SnowPaths.NOT);

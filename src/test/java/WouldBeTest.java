@@ -12,6 +12,8 @@ public final class WouldBeTest {
     first();
     firstOfMany();
     yard();
+    ordersAreTriedAnew();
+    yardAtTheEdges();
     yardOfHidden();
     nothingChanges();
     check.end();
@@ -119,6 +121,28 @@ public final class WouldBeTest {
     }
   }
 
+  private static void ordersAreTriedAnew() {
+    SnowPaths fresh = lane();
+    check.due("order(0) as the first call", fresh.order(0), 1);
+    SnowPaths x = Check.walled("........", "........");
+    x.walker(0, 1);
+    x.walker(0, 2);
+    x.walker(0, 1);
+    Check.snowOf(x, 0, 3);
+    check.due("orders(1), the most not by the first", x.orders(1), 11);
+    check.due("orders(0) by the first", x.orders(0), 10);
+    x.snows(1);
+    check.due("orders(0) of more than before", x.orders(0), 5 + 6 + 3);
+    check.due("orders(1) of more than before", x.orders(1), 7 + 4 + 3);
+    x.thaws(9);
+    check.due("orders(1) of less than before", x.orders(1), 4);
+    check.due("orders(0) of less than before", x.orders(0), 4);
+    check.due("order(0) of like ones", x.order(0), 0);
+    x.gone();
+    check.due("orders(0) of nobody any more", x.orders(0), 0);
+    check.due("orders(1) of nobody any more", x.orders(1), 0);
+  }
+
   private static void ordersOfNobodyAndMany() {
     SnowPaths x = Check.walled("........", "........");
     check.due("orders(0) of nobody", x.orders(0), 0);
@@ -191,6 +215,20 @@ public final class WouldBeTest {
     check.due("yard(0) of nobody", x.yard(0), SnowPaths.NONE);
     check.due("yard(1) of nobody", x.yard(1), 0);
     yardThatChangesTheWay();
+  }
+
+  private static void yardAtTheEdges() {
+    SnowPaths x = Check.walled("........");
+    x.walker(1, 0);
+    Check.snowOf(x, 1);
+    check.due("yard(0), the first cell", x.yard(0), 0);
+    check.due("yard(1), the least there is", x.yard(1), 1);
+    SnowPaths y = Check.green("........", "........", "........", "........", "........", "........", "........",
+        "######..");
+    y.walker(62, 63);
+    y.snows(2);
+    check.due("yard(0), the last cell", y.yard(0), 63);
+    check.due("yard(1), the last cell", y.yard(1), 2);
   }
 
   private static void yardThatChangesTheWay() {
