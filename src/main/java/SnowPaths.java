@@ -150,14 +150,13 @@ public final class SnowPaths {
             return BAD;
         }
         outing.begin(ground.snow);
-        send(walker);
+        outing.go(walkers.from[walker], walkers.to[walker], green.hidden);
         ground.treadAs(outing);
         return outing.effort;
     }
 
     public int morning() {
-        outing.begin(ground.snow);
-        sendAll(NONE);
+        tryMorning(NONE, NONE);
         ground.treadAs(outing);
         return outing.effort;
     }
@@ -168,7 +167,7 @@ public final class SnowPaths {
         if (what < 0 || what > 3) {
             return BAD;
         }
-        tryMorning();
+        tryMorning(NONE, NONE);
         return told(what);
     }
 
@@ -184,7 +183,7 @@ public final class SnowPaths {
         int more = 0;
         for (int w = 0; w < walkers.number; w++) {
             int before = outing.steps;
-            if (send(w)) {
+            if (outing.go(walkers.from[w], walkers.to[w], green.hidden)) {
                 more += outing.steps - before - fewestSteps(w);
             }
         }
@@ -248,7 +247,7 @@ public final class SnowPaths {
         if (i >= k) {
             return NONE;
         }
-        tryMorning();
+        tryMorning(NONE, NONE);
         long taken = 0;
         int cell = NONE;
         for (int n = 0; n <= i; n++) {
@@ -265,7 +264,7 @@ public final class SnowPaths {
         if (k < 0 || k > MOST_GRIT || what < 0 || what > 1) {
             return refusedLong(BAD);
         }
-        tryMorning();
+        tryMorning(NONE, NONE);
         return thirtieths(slipperinessLeft(k), what);
     }
 
@@ -377,7 +376,7 @@ public final class SnowPaths {
         if (sheets[s].isLost()) {
             return found(NULL);
         }
-        tryMorning();
+        tryMorning(NONE, NONE);
         for (int c = 0; c < sheets[s].size; c++) {
             sheets[s].put(c, outing.came[c]);
         }
@@ -424,12 +423,7 @@ public final class SnowPaths {
             h = 31 * h + straight(w);
             h = 31 * h + plan(walkers.from[w], walkers.to[w], NONE);
         }
-        return digestOfMornings(h);
-    }
-
-    private long digestOfMornings(long before) {
-        long h = before;
-        tryMorning();
+        tryMorning(NONE, NONE);
         for (int what = 0; what <= 3; what++) {
             h = 31 * h + told(what);
         }
@@ -448,24 +442,20 @@ public final class SnowPaths {
 
     // ---- trying
 
-    private boolean send(int walker) {
-        return outing.go(walkers.from[walker], walkers.to[walker], green.hidden);
-    }
-
-    private void sendAll(int ahead) {
+    /** A MORNING with one WALKER ahead of the others (NONE) and one CELL laid bare (NONE). */
+    private void tryMorning(int ahead, int bare) {
+        outing.begin(ground.snow);
+        if (isCell(bare)) {
+            outing.snow[bare] = 0;
+        }
         if (isWalker(ahead)) {
-            send(ahead);
+            outing.go(walkers.from[ahead], walkers.to[ahead], green.hidden);
         }
         for (int w = 0; w < walkers.number; w++) {
             if (w != ahead) {
-                send(w);
+                outing.go(walkers.from[w], walkers.to[w], green.hidden);
             }
         }
-    }
-
-    private void tryMorning() {
-        outing.begin(ground.snow);
-        sendAll(NONE);
     }
 
     /** What a tried MORNING comes to, numbered as all() numbers it. */
@@ -491,8 +481,7 @@ public final class SnowPaths {
         bestFirst = NONE;
         bestFirstEffort = 0;
         for (int w = 0; w < walkers.number; w++) {
-            outing.begin(ground.snow);
-            sendAll(w);
+            tryMorning(w, NONE);
             if (bestFirst == NONE || outing.effort < bestFirstEffort) {
                 bestFirst = w;
                 bestFirstEffort = outing.effort;
@@ -503,15 +492,13 @@ public final class SnowPaths {
     private void seekYard() {
         bestYard = NONE;
         bestYardGain = 0;
-        tryMorning();
+        tryMorning(NONE, NONE);
         int asItIs = outing.effort;
         for (int c = 0; c < CELLS; c++) {
             if (has(green.walls, c) || ground.snow[c] == 0) {
                 continue;
             }
-            outing.begin(ground.snow);
-            outing.snow[c] = 0;
-            sendAll(NONE);
+            tryMorning(NONE, c);
             if (asItIs - outing.effort > bestYardGain) {
                 bestYard = c;
                 bestYardGain = asItIs - outing.effort;
@@ -823,7 +810,15 @@ public final class SnowPaths {
             if (!has(reached, from)) {
                 return NONE;
             }
-            trace(from, to, snow);
+            int at = from;
+            for (int n = 0; n < CELLS && at != to; n++) {
+                at = onward(at, snow);
+                if (at == NONE) {
+                    return NONE;
+                }
+                way[n] = at;
+                length = n + 1;
+            }
             return far[from];
         }
 
@@ -838,25 +833,14 @@ public final class SnowPaths {
                 ahead[cost & (RING - 1)] = 0;
                 reached |= now;
                 for (int n = 0; n < CELLS && now != 0; n++) {
-                    int cell = lowest(now);
+                    // The lowest bit, less one, has as many bits as its CELL's number.
+                    int cell = Long.bitCount((now & -now) - 1);
                     now &= now - 1;
                     far[cell] = cost;
                     int then = cost + 1 + snow[cell];
                     ahead[then & (RING - 1)] |= around(bit(cell)) & ~closed;
                     last = Math.max(last, then);
                 }
-            }
-        }
-
-        private void trace(int from, int to, int[] snow) {
-            int at = from;
-            for (int n = 0; n < CELLS && at != to; n++) {
-                at = onward(at, snow);
-                if (at == NONE) {
-                    return;
-                }
-                way[n] = at;
-                length = n + 1;
             }
         }
 
@@ -874,10 +858,6 @@ public final class SnowPaths {
             long east = (set << 1) & ~FIRST_COLUMN;
             long west = (set & ~FIRST_COLUMN) >>> 1;
             return (set >>> 8) | east | (set << 8) | west;
-        }
-
-        private static int lowest(long set) {
-            return Long.bitCount((set & -set) - 1);
         }
     }
 

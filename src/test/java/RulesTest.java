@@ -6,6 +6,8 @@ import java.lang.reflect.Modifier;
 import java.nio.file.Files;
 import java.nio.file.Path;
 import java.util.Arrays;
+import java.util.HashMap;
+import java.util.Map;
 import java.util.Set;
 import java.util.TreeSet;
 import java.util.regex.Matcher;
@@ -31,6 +33,7 @@ public final class RulesTest {
     forbiddenWords(code);
     library(code);
     methodsAreShort(code);
+    callsAreShallow(code);
     check.end();
   }
 
@@ -142,5 +145,36 @@ public final class RulesTest {
         check.due("the method at line " + began + " is short", n - began <= 60);
       }
     }
+  }
+
+  /** Methods of like names count as one, which can only make the depth greater. */
+  private static void callsAreShallow(String code) {
+    Map<String, String> bodies = new HashMap<>();
+    String method = "(?m)^ +(?:public|private) (?:static )?\\w+(?:\\[\\])? (\\w+)\\([^)]*\\) \\{$";
+    Matcher heads = Pattern.compile(method).matcher(code);
+    while (heads.find()) {
+      int ends = heads.end();
+      for (int open = 1; open > 0; ends++) {
+        open += code.charAt(ends) == '{' ? 1 : code.charAt(ends) == '}' ? -1 : 0;
+      }
+      bodies.merge(heads.group(1), code.substring(heads.end(), ends), String::concat);
+    }
+    check.due("methods were found", bodies.size() > 36);
+    for (String name : bodies.keySet()) {
+      check.due("calls from " + name + " on are at most eight deep", depth(name, bodies, 0) <= 8);
+    }
+  }
+
+  private static int depth(String name, Map<String, String> bodies, int above) {
+    if (above > 20 || !bodies.containsKey(name)) {
+      return above > 20 ? 1000 : 1;
+    }
+    int deepest = 0;
+    Matcher calls = Pattern.compile("\\b(\\w+)\\(").matcher(bodies.get(name));
+    while (calls.find()) {
+      boolean word = Set.of("if", "for", "while", "switch").contains(calls.group(1));
+      deepest = Math.max(deepest, word ? 0 : depth(calls.group(1), bodies, above + 1));
+    }
+    return deepest + 1;
   }
 }
