@@ -7,6 +7,7 @@ final class Check {
   static final int[] WILD = {Integer.MIN_VALUE, Integer.MIN_VALUE + 1, Integer.MAX_VALUE, -1000, 1000};
 
   private final String name;
+  private String sentence = "";
   private int looked = 0;
   private int wrong = 0;
 
@@ -14,11 +15,16 @@ final class Check {
     this.name = name;
   }
 
+  /** The sentence of the document that the answers from here on are looked at for. */
+  void says(String words) {
+    sentence = " [" + words + "]";
+  }
+
   void due(String call, long got, long want) {
     looked++;
     if (got != want) {
       wrong++;
-      System.out.println(name + ": " + call + " answered " + got + ", due is " + want);
+      System.out.println(name + sentence + ": " + call + " answered " + got + ", due is " + want);
     }
   }
 
@@ -66,6 +72,29 @@ final class Check {
   static void typeAll(SnowPaths x, String text) {
     for (int i = 0; i < text.length(); i++) {
       x.type(text.charAt(i));
+    }
+  }
+
+  /** A new object with a green all of one sign. */
+  static SnowPaths full(char sign) {
+    SnowPaths x = new SnowPaths();
+    typeAll(x, text(String.valueOf(sign).repeat(8)));
+    return x;
+  }
+
+  /** A new object with a green of one sign but for one cell. */
+  static SnowPaths fullBut(char sign, int cell, char other) {
+    SnowPaths x = new SnowPaths();
+    StringBuilder b = new StringBuilder(text(String.valueOf(sign).repeat(8)));
+    b.setCharAt(cell + cell / 8, other);
+    typeAll(x, b.toString());
+    return x;
+  }
+
+  /** So many walkers who go from a cell to a cell. */
+  static void send(SnowPaths x, int number, int from, int to) {
+    for (int n = 0; n < number; n++) {
+      x.walker(from, to);
     }
   }
 
