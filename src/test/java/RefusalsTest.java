@@ -26,7 +26,7 @@ public final class RefusalsTest {
   }
 
   /** Something of everything: walls, hidden ones, snow, pressed, ice, walkers, sheets, a finding. */
-  private static SnowPaths rich(int walkers) {
+  static SnowPaths rich(int walkers) {
     SnowPaths x = Check.green("........", "..#.o...", "....#...", "...o....", ".#......");
     x.snows(5);
     x.walker(0, 7);
@@ -48,7 +48,7 @@ public final class RefusalsTest {
   }
 
   /** All that can be seen of an object but the latest finding; the object is of no use behind it. */
-  private static long[] seen(SnowPaths x) {
+  static long[] seen(SnowPaths x) {
     long[] out = new long[2 + 64 + 5 + 4];
     int at = 0;
     out[at++] = x.digest();
