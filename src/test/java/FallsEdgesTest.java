@@ -9,6 +9,7 @@ public final class FallsEdgesTest {
     noFalls();
     fallsAboveOne();
     fallsEachTime();
+    fallsByIceAlone();
     fallsAreTold();
     gritForNoneToEight();
     gritBeyond();
@@ -103,6 +104,22 @@ public final class FallsEdgesTest {
     fraction("with who stops", x, (16 + 7 + 2) / 5, 30 / 5);
   }
 
+  private static void fallsByIceAlone() {
+    check.says("FALLS: ICE by 30 (what is pressed since, or lies on it, is none)");
+    SnowPaths x = lane(3);
+    Check.snowOf(x, 0, 9);
+    x.walker(0, 1);
+    x.walk(0);
+    check.row("snow, pressed, ice", new int[] {x.cell(1, 1), x.cell(1, 2), x.cell(1, 3)}, 8, 4, 3);
+    fraction("by ice", x, 1, 10);
+    x.clear(1, 1);
+    check.row("snow, pressed, ice", new int[] {x.cell(1, 1), x.cell(1, 2), x.cell(1, 3)}, 0, 0, 3);
+    fraction("by ice alone", x, 1, 10);
+    check.due("grit(1, 0)", x.grit(1, 0), 1);
+    x.freezes();
+    fraction("without ice", x, 0, 1);
+  }
+
   private static void fallsAreTold() {
     check.says("FALLS: above, below. BAD. (As the least long.)");
     SnowPaths x = lane(1);
@@ -119,21 +136,23 @@ public final class FallsEdgesTest {
     check.due("count(8)", x.count(8), 0);
   }
 
-  private static final int[] STAIRS = {1, 2, 3, 4, 5, 6, 7, 15, 23, 31, 39, 47, 55, 63};
+  /** What a walker comes onto from 0 to 63 where nothing is in the way. */
+  static final int[] STAIRS = {1, 2, 3, 4, 5, 6, 7, 15, 23, 31, 39, 47, 55, 63};
 
   /** Ice 1 on each of the fourteen cells that a walker comes onto. */
-  private static SnowPaths fourteen() {
+  static SnowPaths fourteen() {
     SnowPaths x = new SnowPaths();
     x.snows(1);
     x.walker(0, 63);
     x.walk(0);
-    check.due("freezes()", x.freezes(), 14);
+    x.freezes();
     return x;
   }
 
   private static void gritForNoneToEight() {
     check.says("GRIT for k CELLS (0 to 8)");
     SnowPaths x = fourteen();
+    check.due("count(5)", x.count(5), 14);
     for (int k = 0; k <= 8; k++) {
       for (int i = 0; i <= 9; i++) {
         check.due("grit(" + k + ", " + i + ")", x.grit(k, i), i < k ? STAIRS[i] : NONE);
@@ -188,6 +207,14 @@ public final class FallsEdgesTest {
     x.walker(0, 3);
     check.row("grit(8, ..)", new int[] {x.grit(8, 0), x.grit(8, 1), x.grit(8, 2)}, 1, 3, NONE);
     x.gone();
+    SnowPaths start = Check.walled("........");
+    Check.snowOf(start, 1);
+    start.walker(1, 0);
+    start.walk(0);
+    start.freezes();
+    check.row("grit(8, ..) of the first cell", new int[] {start.grit(8, 0), start.grit(8, 1)}, 0, NONE);
+    left(start, 0, 1, 30);
+    left(start, 1, 0, 1);
     check.due("grit(8, 0) where nobody comes", x.grit(8, 0), NONE);
     x.walker(1, 2);
     check.due("grit(8, 0) where there is no ice", x.grit(8, 0), NONE);

@@ -15,6 +15,7 @@ public final class GreenEdgesTest {
     allOpenWithAFault();
     seventyFiveAtMost();
     wiped();
+    wipedLeavesNothing();
     nothingAtFirst();
     directions();
     snowsBy();
@@ -192,6 +193,20 @@ public final class GreenEdgesTest {
     Check.typeAll(x, Check.text(Check.OPEN_ROW));
     check.due("fault() of another text", x.fault(), NONE);
     check.due("count(1) of another text", x.count(1), 0);
+  }
+
+  private static void wipedLeavesNothing() {
+    check.says("THE GREEN is empty (nothing of a longer text is left behind a shorter one)");
+    for (char sign : new char[] {'#', 'o', ';', 'x'}) {
+      SnowPaths x = typed(String.valueOf(sign).repeat(75));
+      x.wipe();
+      Check.typeAll(x, Check.text(Check.OPEN_ROW));
+      check.due("fault() behind 75 of " + sign, x.fault(), NONE);
+      check.row("kinds behind 75 of " + sign, Check.cells(x, 0, 0, 64), new int[64]);
+      x.wipe();
+      x.type('.');
+      check.due("fault() of one behind 71", x.fault(), 1);
+    }
   }
 
   private static void nothingAtFirst() {

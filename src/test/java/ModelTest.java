@@ -1,6 +1,4 @@
-import java.lang.reflect.Method;
 import java.util.ArrayList;
-import java.util.Arrays;
 import java.util.LinkedHashMap;
 import java.util.List;
 import java.util.Map;
@@ -27,8 +25,8 @@ public final class ModelTest {
   private final Check check;
   private final Random random;
   private final int run;
-  private final Object real = new SnowPaths();
-  private final Object model = new Model();
+  private final SnowPaths real = new SnowPaths();
+  private final Model model = new Model();
 
   private ModelTest(Check check, int run) {
     this.check = check;
@@ -36,7 +34,7 @@ public final class ModelTest {
     this.random = new Random(run);
   }
 
-  public static void main(String[] args) throws ReflectiveOperationException {
+  public static void main(String[] args) {
     Check check = new Check("ModelTest");
     everyCallIsTried(check);
     int runs = args.length > 0 ? Integer.parseInt(args[0]) : RUNS;
@@ -49,16 +47,14 @@ public final class ModelTest {
 
   private static void everyCallIsTried(Check check) {
     int calls = 0;
-    for (Method m : SnowPaths.class.getDeclaredMethods()) {
-      if (java.lang.reflect.Modifier.isPublic(m.getModifiers())) {
-        calls++;
-        check.due(m.getName() + " is in the table", CALLED.containsKey(m.getName()));
-      }
+    for (String name : Calls.names()) {
+      calls++;
+      check.due(name + " is in the table", CALLED.containsKey(name));
     }
     check.due("calls in the table", calls, CALLED.size());
   }
 
-  private void goOn() throws ReflectiveOperationException {
+  private void goOn() {
     List<String> bag = new ArrayList<>();
     for (Map.Entry<String, String> e : CALLED.entrySet()) {
       for (int n = 0; n < Integer.parseInt(e.getValue().split(" ")[0]); n++) {
@@ -79,7 +75,7 @@ public final class ModelTest {
     }
   }
 
-  private int typeGreen() throws ReflectiveOperationException {
+  private int typeGreen() {
     int walls = random.nextInt(35);
     int hidden = random.nextInt(20);
     for (int place = 0; place < 71; place++) {
@@ -89,7 +85,7 @@ public final class ModelTest {
     return 71;
   }
 
-  private int begin() throws ReflectiveOperationException {
+  private int begin() {
     int made = random.nextInt(6);
     for (int n = 0; n < made; n++) {
       answer("walker", random.nextInt(64), random.nextInt(64));
@@ -133,15 +129,8 @@ public final class ModelTest {
     }
   }
 
-  private void answer(String name, int... args) throws ReflectiveOperationException {
-    Class<?>[] kinds = new Class<?>[args.length];
-    Object[] boxed = new Object[args.length];
-    for (int n = 0; n < args.length; n++) {
-      kinds[n] = int.class;
-      boxed[n] = args[n];
-    }
-    Number got = (Number) SnowPaths.class.getMethod(name, kinds).invoke(real, boxed);
-    Number want = (Number) Model.class.getMethod(name, kinds).invoke(model, boxed);
-    check.due("run " + run + ": " + name + Arrays.toString(args), got.longValue(), want.longValue());
+  private void answer(String name, int... args) {
+    long want = Calls.make(model, name, args);
+    check.due("run " + run + ": " + Calls.told(name, args), Calls.make(real, name, args), want);
   }
 }

@@ -39,6 +39,7 @@ public final class SheetsEdgesTest {
     digestOfNothing();
     digestOfWalls();
     digestOfOneWalk();
+    digestOfFalls();
     digestLeavesOut();
     check.end();
   }
@@ -546,6 +547,31 @@ public final class SheetsEdgesTest {
     add(all, 2, 3);
     add(all, 1, 30, 0, 1);
     check.due("digest()", x.digest(), digest(all));
+  }
+
+  private static void digestOfFalls() {
+    check.says("digest: falls(), left(2), above and below each");
+    List<Long> all = new ArrayList<>();
+    add(all, 0, 0, 0, 50, 14, 14, 14, 1);
+    add(all, 0);
+    long[] cells = new long[64 * 5];
+    for (int c = 0; c < 64; c++) {
+      cells[5 * c + 1] = 1;
+    }
+    for (int c : FallsEdgesTest.STAIRS) {
+      cells[5 * c + 1] = 0;
+      cells[5 * c + 2] = 1;
+      cells[5 * c + 3] = 1;
+      cells[5 * c + 4] = 1;
+    }
+    add(all, cells);
+    add(all, 14, 14);
+    add(all, 14, 14, 14, 0);
+    add(all, 0);
+    add(all, 0, 14);
+    add(all, -1, 0);
+    add(all, 7, 15, 2, 5);
+    check.due("digest() with ice on fourteen", FallsEdgesTest.fourteen().digest(), digest(all));
   }
 
   private static void digestLeavesOut() {

@@ -237,28 +237,43 @@ public final class SheetsTest {
     }
   }
 
+  private static final int[][] EIGHT = {
+      {0, 63}, {7, 56}, {1, 3}, {6, 0}, {2, 9}, {40, 40}, {16, 19}, {63, 0}};
+
+  private static SnowPaths withWalkers(int number) {
+    SnowPaths x = Check.green("..o...#.", "..#.....", ".o......", "....#...");
+    for (int n = 0; n < number; n++) {
+      x.walker(EIGHT[n][0], EIGHT[n][1]);
+    }
+    return x;
+  }
+
+  private static SnowPaths behindAMorning() {
+    SnowPaths x = withWalkers(8);
+    x.snows(6);
+    x.morning();
+    x.freezes();
+    x.thaws(1);
+    x.clear(9, 0);
+    return x;
+  }
+
   private static void digest() {
     SnowPaths x = new SnowPaths();
     check.due("digest() of a new object", x.digest(), digestOf(x));
-    SnowPaths y = Check.green("..o...#.", "..#.....", ".o......", "....#...");
-    check.due("digest() of a green", y.digest(), digestOf(y));
-    int[][] walkers = {{0, 63}, {7, 56}, {1, 3}, {6, 0}, {2, 9}, {40, 40}, {16, 19}, {63, 0}};
-    for (int[] w : walkers) {
-      y.walker(w[0], w[1]);
-      check.due("digest() with " + y.count(7), y.digest(), digestOf(y, walkers));
+    for (int n = 0; n <= 8; n++) {
+      SnowPaths y = withWalkers(n);
+      check.due("digest() with " + n, y.digest(), digestOf(y, EIGHT));
     }
-    y.snows(6);
-    y.morning();
-    y.freezes();
-    y.thaws(1);
-    y.clear(9, 0);
-    check.due("digest() behind a morning", y.digest(), digestOf(y, walkers));
-    long before = y.digest();
-    y.get(0, 0, 0);
-    y.sheet(0, 0, 9);
-    check.due("digest() leaves out sheets and findings", y.digest(), before);
-    y.type('x');
-    check.due("digest() with a fault", y.digest(), digestOf(y, walkers));
+    SnowPaths z = behindAMorning();
+    long before = z.digest();
+    check.due("digest() behind a morning", before, digestOf(z, EIGHT));
+    z.get(0, 0, 0);
+    z.sheet(0, 0, 9);
+    check.due("digest() leaves out sheets and findings", z.digest(), before);
+    SnowPaths faulty = behindAMorning();
+    faulty.type('x');
+    check.due("digest() with a fault", faulty.digest(), digestOf(faulty, EIGHT));
   }
 
   private static long digestOf(SnowPaths x, int[]... walkers) {

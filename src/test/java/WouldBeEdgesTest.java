@@ -15,6 +15,8 @@ public final class WouldBeEdgesTest {
     straightOfNobody();
     longerOfNone();
     longerOfEight();
+    triedAnewEachTime();
+    hiddenOnesInEachTry();
     ordersUpToFive();
     ordersBeyondFive();
     orderOfLikeOnes();
@@ -187,6 +189,31 @@ public final class WouldBeEdgesTest {
     }
     x.snows(9);
     check.due("longer() counts cells, not snow", x.longer(), 32);
+  }
+
+  private static void triedAnewEachTime() {
+    check.says("all is tried from as it is");
+    SnowPaths x = WouldBeTest.lane();
+    int[] due = {11, 2, 10, 10, 1, 11, 11};
+    int[] got = {x.all(0), x.longer(), x.orders(0), x.first(1), x.order(0), x.orders(1), x.all(0)};
+    check.row("one behind the other", got, due);
+    int[] again = {x.longer(), x.longer(), x.yard(1), x.longer(), x.all(1), x.all(1)};
+    check.row("and again", again, 2, 2, 3 + 2 + 2, 2, 6, 6);
+  }
+
+  private static void hiddenOnesInEachTry() {
+    check.says("A WALK: .. until the next CELL is HIDDEN (in all that is tried)");
+    SnowPaths x = Check.walled("...o....", ".###....", "........");
+    x.walker(0, 4);
+    x.walker(0, 1);
+    check.row("all()", all(x), 12 + 1, 13, 3 + 8, 0);
+    check.row("orders()", new int[] {x.orders(0), x.orders(1)}, 13, 13);
+    check.row("first()", new int[] {x.first(0), x.first(1)}, 0, 13);
+    x.snows(1);
+    check.due("all(0) in snow", x.all(0), 2 + 2 + 1 + 2 + 8 * 2 + 1);
+    check.row("orders() in snow", new int[] {x.orders(0), x.orders(1)}, 24, 24);
+    check.row("first() in snow", new int[] {x.first(0), x.first(1)}, 0, 24);
+    check.row("yard() in snow", new int[] {x.yard(0), x.yard(1)}, 0, 1);
   }
 
   private static void ordersUpToFive() {
