@@ -8,6 +8,8 @@ import java.util.Random;
 public final class ModelTest {
   private static final int RUNS = 240;
   private static final int CALLS = 512;
+  /** Thin snow makes many ways cost alike, deep snow makes long ways around worth it. */
+  private static final int[] DEEPEST = {11, 2, 30, 11};
 
   /** How often each call comes, and of which kinds its arguments are. */
   private static final Map<String, String> CALLED = new LinkedHashMap<>();
@@ -91,8 +93,9 @@ public final class ModelTest {
       answer("walker", random.nextInt(64), random.nextInt(64));
     }
     answer("sheet", 0, 2, 64);
+    int deepest = DEEPEST[run % DEEPEST.length];
     for (int c = 0; c < 64; c++) {
-      answer("lay", 0, 2, c, random.nextInt(1 + random.nextInt(12)));
+      answer("lay", 0, 2, c, random.nextInt(1 + random.nextInt(1 + deepest)));
     }
     answer("read", 0);
     return made + 66;
